@@ -1,9 +1,10 @@
 /**
  * A temporal network with uncertain durations, and a live dispatcher for it.
  *
- * Safety is worked out backwards from the end of the game. A position (the times given so far) is one
- * number, with a digit per event 1..N-1: 0 for no time, k + 1 for time k. Layer t of the table tells
- * which positions are safe at the beginning of round t; the layer after the last round tells which are won.
+ * The positions of the game are far too many to look at in every call. Instead it is deduced, once after an
+ * edit, what every way of choosing that always wins has to keep to: bounds on the difference of two events, and
+ * waits of an event for a contingent one. If these contradict each other, the network is not accepted. If they
+ * do not, and nothing more follows from them, a choice is safe exactly if it breaks none of them.
  */
 public final class ControllableTime {
     public static final int OK = 0;
@@ -27,8 +28,8 @@ public final class ControllableTime {
     private static final int MOST_HORIZON = 7;
 
     private static final int MOST_PAIRS = 36;
-    /** Nine layers (rounds 0..7 and the end) of 9 to the power 5 positions. */
-    private static final int MOST_CELLS = 531441;
+    /** Each pass but the last changes one of 72 numbers, all within -7..7 as long as nothing contradicts itself. */
+    private static final int MOST_PASSES = 2000;
 
     private static final int NO_TIME = -1;
     private static final int NO_EVENT = -1;
@@ -40,15 +41,17 @@ public final class ControllableTime {
     private final int[] policies = new int[MOST_EVENTS];
     private final int[] times = new int[MOST_EVENTS];
 
-    private final boolean[] safe = new boolean[MOST_CELLS];
-    /** What one unit of an event's digit adds to a position; event 0 has no digit, as its time is always 0. */
-    private final int[] weights = new int[MOST_EVENTS];
-    private final int[] endTimes = new int[MOST_EVENTS];
+    /** At u * MOST_EVENTS + v: the greatest time(v) - time(u) in any play of any way of choosing that always wins. */
+    private final int[] bounds = new int[MOST_PAIRS];
+    /** At c * MOST_EVENTS + u: while c has not happened, u must be at least so long after the activation of c. */
+    private final int[] waits = new int[MOST_PAIRS];
 
     private final int eventCount;
     private final int horizonRound;
-    private final int digitValues;
-    private final int positions;
+
+    private boolean isJudged;
+    private boolean wasAccepted;
+    private boolean hasChanged;
 
     private int phase;
     private int round;
@@ -56,13 +59,6 @@ public final class ControllableTime {
     public ControllableTime(int events, int horizon) {
         eventCount = clamp(events, LEAST_EVENTS, MOST_EVENTS);
         horizonRound = clamp(horizon, LEAST_HORIZON, MOST_HORIZON);
-        digitValues = horizonRound + 2;
-        int weight = 1;
-        for (int e = 1; e < eventCount; e++) {
-            weights[e] = weight;
-            weight *= digitValues;
-        }
-        positions = weight;
         clearLinks();
         enterLoad();
     }
@@ -79,6 +75,7 @@ public final class ControllableTime {
         }
         tighten(u, v, hi);
         tighten(v, u, -lo);
+        isJudged = false;
         return OK;
     }
 
@@ -98,6 +95,7 @@ public final class ControllableTime {
         activations[c] = a;
         shortest[c] = lo;
         longest[c] = hi;
+        isJudged = false;
         return OK;
     }
 
@@ -110,6 +108,7 @@ public final class ControllableTime {
         }
         loosen(u, v);
         loosen(v, u);
+        isJudged = false;
         return OK;
     }
 
@@ -124,6 +123,7 @@ public final class ControllableTime {
             return CONFLICT;
         }
         activations[c] = NO_EVENT;
+        isJudged = false;
         return OK;
     }
 
@@ -334,106 +334,164 @@ public final class ControllableTime {
         return executed;
     }
 
-    /**
-     * The layer of the present round is written over, as its beginning is past; start works all layers out
-     * anew before they are needed again.
-     */
+    /** The position before the choice is safe, so where the one choice is not safe the other one is. */
     private boolean isExecutedNow(int e) {
-        foldChoices(round, e + 1);
-        int declined = round * positions + presentPosition();
-        int executed = declined + (round + 1) * weights[e];
-        return policies[e] == EAGER ? safe[executed] : !safe[declined];
+        return policies[e] == EAGER ? canExecute(e) : !canDecline(e);
     }
 
-    private int presentPosition() {
-        int position = 0;
-        for (int e = 1; e < eventCount; e++) {
-            position += (times[e] + 1) * weights[e];
-        }
-        return position;
-    }
-
-    private boolean isAccepted() {
-        judgeEnds();
-        for (int t = horizonRound; t >= 0; t--) {
-            foldChoices(t, 1);
-            foldOutcomes(t);
-        }
-        return safe[0];
-    }
-
-    private void judgeEnds() {
-        int layer = (horizonRound + 1) * positions;
-        for (int position = 0; position < positions; position++) {
-            safe[layer + position] = isWon(position);
-        }
-    }
-
-    private boolean isWon(int position) {
+    private boolean canExecute(int e) {
         for (int v = 0; v < eventCount; v++) {
-            endTimes[v] = timeIn(position, v);
-            if (endTimes[v] == NO_TIME) {
+            if (v != e && soonest(v, e) > round + bounds[e * MOST_EVENTS + v]) {
                 return false;
             }
-            for (int u = 0; u < v; u++) {
-                int difference = endTimes[v] - endTimes[u];
-                if (difference > limits[u * MOST_EVENTS + v] || -difference > limits[v * MOST_EVENTS + u]) {
-                    return false;
-                }
+        }
+        for (int c = 1; c < eventCount; c++) {
+            if (isContingent(c) && isRunning(c) && elapsed(c) < waits[c * MOST_EVENTS + e]) {
+                return false;
             }
         }
         return true;
     }
 
-    private int timeIn(int position, int e) {
-        return e == 0 ? 0 : position / weights[e] % digitValues - 1;
-    }
-
-    /** The index-th of the positions in which event e (not 0) has no time. */
-    private int openPosition(int index, int e) {
-        int weight = weights[e];
-        return index + index / weight * weight * (digitValues - 1);
-    }
-
-    /** Makes layer t tell what is safe in round t when only the choices of the events from..N-1 are left. */
-    private void foldChoices(int t, int from) {
-        int layer = t * positions;
-        for (int cell = layer; cell < layer + positions; cell++) {
-            safe[cell] = safe[cell + positions];
+    /** The time of v, or the soonest time that it can still get when the choice of event e is being made. */
+    private int soonest(int v, int e) {
+        if (times[v] != NO_TIME) {
+            return times[v];
         }
-        for (int e = eventCount - 1; e >= from; e--) {
-            if (!isContingent(e)) {
-                foldChoice(t, e);
+        return v > e && !isContingent(v) ? round : round + 1;
+    }
+
+    private boolean canDecline(int e) {
+        for (int u = 0; u < eventCount; u++) {
+            if (times[u] != NO_TIME && times[u] + bounds[u * MOST_EVENTS + e] <= round) {
+                return false;
+            }
+        }
+        return true;
+    }
+
+    private boolean isAccepted() {
+        if (!isJudged) {
+            loadBounds();
+            loadWaits();
+            wasAccepted = settle();
+            isJudged = true;
+        }
+        return wasAccepted;
+    }
+
+    private void loadBounds() {
+        for (int u = 0; u < eventCount; u++) {
+            for (int v = 0; v < eventCount; v++) {
+                bounds[u * MOST_EVENTS + v] = u == v ? 0 : limits[u * MOST_EVENTS + v];
             }
         }
     }
 
-    private void foldChoice(int t, int e) {
-        for (int index = 0; index < positions / digitValues; index++) {
-            int declined = t * positions + openPosition(index, e);
-            int executed = declined + (t + 1) * weights[e];
-            safe[declined] = safe[declined] || safe[executed];
+    private void loadWaits() {
+        for (int c = 1; c < eventCount; c++) {
+            for (int u = 0; u < eventCount; u++) {
+                waits[c * MOST_EVENTS + u] = -horizonRound;
+            }
+            if (isContingent(c)) {
+                waits[c * MOST_EVENTS + c] = longest[c];
+                lowerBound(activations[c], c, longest[c]);
+            }
         }
     }
 
-    /** One event after the other is as good as all at once: no outcome depends on another one of its round. */
-    private void foldOutcomes(int t) {
+    /** Deduces bounds and waits until nothing new follows; answers whether they can all be kept. */
+    private boolean settle() {
+        for (int pass = 0; pass < MOST_PASSES; pass++) {
+            hasChanged = false;
+            deduce();
+            if (isContradiction()) {
+                return false;
+            }
+            if (!hasChanged) {
+                return true;
+            }
+        }
+        return false;
+    }
+
+    private boolean isContradiction() {
+        for (int u = 0; u < eventCount; u++) {
+            if (bounds[u * MOST_EVENTS + u] < 0) {
+                return true;
+            }
+        }
+        return false;
+    }
+
+    private void deduce() {
+        chainBounds();
         for (int c = 1; c < eventCount; c++) {
             if (isContingent(c)) {
-                foldOutcome(t, c);
+                chainWaits(c);
+                waitBeforeActivations(c);
+                boundByWaits(c);
+                boundByShortest(c);
             }
         }
     }
 
-    private void foldOutcome(int t, int c) {
-        for (int index = 0; index < positions / digitValues; index++) {
-            int position = openPosition(index, c);
-            int begun = timeIn(position, activations[c]);
-            int passed = t - begun;
-            if (begun != NO_TIME && passed >= shortest[c] && passed <= longest[c]) {
-                int absent = t * positions + position;
-                int happened = absent + (t + 1) * weights[c];
-                safe[absent] = safe[happened] && (passed == longest[c] || safe[absent]);
+    private void lowerBound(int u, int v, int most) {
+        if (most < bounds[u * MOST_EVENTS + v]) {
+            bounds[u * MOST_EVENTS + v] = most;
+            hasChanged = true;
+        }
+    }
+
+    private void raiseWait(int c, int u, int least) {
+        if (least > waits[c * MOST_EVENTS + u]) {
+            waits[c * MOST_EVENTS + u] = least;
+            hasChanged = true;
+        }
+    }
+
+    private void chainBounds() {
+        for (int via = 0; via < eventCount; via++) {
+            for (int u = 0; u < eventCount; u++) {
+                for (int v = 0; v < eventCount; v++) {
+                    lowerBound(u, v, bounds[u * MOST_EVENTS + via] + bounds[via * MOST_EVENTS + v]);
+                }
+            }
+        }
+    }
+
+    /** The environment can hold c back to its longest duration, and then v waits; so u, bound to v, waits too. */
+    private void chainWaits(int c) {
+        for (int u = 0; u < eventCount; u++) {
+            for (int v = 0; v < eventCount; v++) {
+                raiseWait(c, u, waits[c * MOST_EVENTS + v] - bounds[u * MOST_EVENTS + v]);
+            }
+        }
+    }
+
+    /** A contingent event that has to wait for c cannot do so itself; its activation event must, as it may be short. */
+    private void waitBeforeActivations(int c) {
+        for (int k = 1; k < eventCount; k++) {
+            if (k != c && isContingent(k) && waits[c * MOST_EVENTS + k] > 0) {
+                raiseWait(c, activations[k], waits[c * MOST_EVENTS + k] - shortest[k]);
+            }
+        }
+    }
+
+    /** Before the shortest duration of c is over, a wait for c cannot end early, so it is a bound. */
+    private void boundByWaits(int c) {
+        for (int u = 0; u < eventCount; u++) {
+            int wait = waits[c * MOST_EVENTS + u];
+            int sure = wait < shortest[c] ? wait : shortest[c];
+            lowerBound(u, activations[c], -sure);
+        }
+    }
+
+    /** What must come before c cannot look at c first, so it must come in time for the shortest duration. */
+    private void boundByShortest(int c) {
+        for (int v = 0; v < eventCount; v++) {
+            if (bounds[c * MOST_EVENTS + v] < 0) {
+                lowerBound(activations[c], v, shortest[c] + bounds[c * MOST_EVENTS + v]);
             }
         }
     }

@@ -1,11 +1,17 @@
-/** Counts and prints the answers that are not as due. */
+/** Counts and prints the answers that are not as due. A test that makes one must be at its end before its clock. */
 final class Checks {
+    private static final int MOST_SECONDS = 300;
+    private static final int MOST_PRINTED = 100;
+
+    private final Clock clock = new Clock("the test", MOST_SECONDS);
     private int wrong = 0;
 
     void due(String call, int got, int want) {
         if (got != want) {
             wrong++;
-            System.out.println(call + " answered " + got + ", due is " + want);
+            if (wrong <= MOST_PRINTED) {
+                System.out.println(call + " answered " + got + ", due is " + want);
+            }
         }
     }
 
@@ -31,6 +37,7 @@ final class Checks {
 
     /** Ends the test, with exit code 1 if an answer was wrong. */
     void finish() {
+        clock.stop();
         System.out.println(wrong == 0 ? "all answers are as due" : wrong + " answers are not as due");
         if (wrong != 0) {
             System.exit(1);

@@ -62,6 +62,9 @@ public final class CompareTest {
         for (int k = 0; k < edits; k++) {
             edit();
         }
+        if (run % 3 == 0) {
+            tighten();
+        }
         for (int games = between(1, 3); games > 0; games--) {
             compareVerdict();
             call("start()", got.start(), want.start());
@@ -72,6 +75,22 @@ public final class CompareTest {
             finished += want.state() == 2 ? 1 : 0;
             call("restart()", got.restart(), want.restart());
             edit();
+        }
+    }
+
+    /** Takes in requirements as long as the network stays accepted, as only a tight one leaves little that is safe. */
+    private void tighten() {
+        for (int k = 0; k < 8; k++) {
+            int u = pick(n);
+            int v = pick(n);
+            int lo = between(-h, h);
+            int hi = between(lo, Math.min(h, lo + 3));
+            call("addRequirement(" + u + ", " + v + ", " + lo + ", " + hi + ")",
+                    got.addRequirement(u, v, lo, hi), want.addRequirement(u, v, lo, hi));
+            compareVerdict();
+            if (want.verdict() == 0) {
+                call("dropRequirement(" + u + ", " + v + ")", got.dropRequirement(u, v), want.dropRequirement(u, v));
+            }
         }
     }
 

@@ -9,7 +9,9 @@ public final class VerdictTest {
         sameRound();
         chains();
         policiesPlayNoPart();
+        otherOutcomes();
         verdictFollowsEdits();
+        everyEditCounts();
         startOrdinary();
         startRefused();
         CHECKS.finish();
@@ -134,6 +136,30 @@ public final class VerdictTest {
         due("verdict() with EAGER", x.verdict(), 0);
     }
 
+    /** An outcome can stand in for a choice only as far as the choice that activates it can wait. */
+    private static void otherOutcomes() {
+        ControllableTime x = new ControllableTime(4, 7);
+        x.addContingent(0, 1, 1, 5);
+        x.addContingent(2, 3, 1, 2);
+        x.addRequirement(3, 1, -7, 2);
+        due("a duration begun so that it ends at most two rounds before the outcome", x.verdict(), 1);
+        x.addRequirement(0, 2, 0, 2);
+        due("and begun in round 2 at the latest", x.verdict(), 1);
+        x.addRequirement(0, 2, 0, 1);
+        due("and begun in round 1 at the latest, too soon for the longest outcome", x.verdict(), 0);
+        x.dropRequirement(0, 2);
+        x.addRequirement(1, 2, -7, -1);
+        due("begun before the outcome, and so in round 0", x.verdict(), 0);
+        ControllableTime y = new ControllableTime(4, 7);
+        y.addContingent(0, 1, 2, 5);
+        y.addContingent(0, 2, 2, 5);
+        y.addRequirement(1, 3, -3, 7);
+        y.addRequirement(2, 3, -7, 0);
+        due("not long before one outcome, not after the other one", y.verdict(), 1);
+        y.addRequirement(1, 3, -2, 7);
+        due("nearer to the first than the second allows", y.verdict(), 0);
+    }
+
     private static void verdictFollowsEdits() {
         ControllableTime x = new ControllableTime(3, 3);
         ControllableTime y = new ControllableTime(3, 3);
@@ -151,6 +177,36 @@ public final class VerdictTest {
             x.dropContingent(1);
             CHECKS.sameFace("verdict changes nothing", x, y);
         }
+    }
+
+    /** What was found out before an edit does not hold after it, for verdict, start and the next game alike. */
+    private static void everyEditCounts() {
+        ControllableTime x = new ControllableTime(3, 3);
+        accepts("nothing loaded", x, 1);
+        x.addRequirement(0, 1, -3, -1);
+        accepts("addRequirement", x, 0);
+        x.dropRequirement(1, 0);
+        accepts("dropRequirement", x, 1);
+        x.addRequirement(1, 2, 3, 3);
+        accepts("addRequirement that can be met", x, 1);
+        x.addContingent(0, 1, 1, 1);
+        accepts("addContingent", x, 0);
+        x.dropContingent(1);
+        accepts("dropContingent", x, 1);
+        x.dropRequirement(1, 2);
+        x.start();
+        due("step() with nothing required", x.step(), 6);
+        x.restart();
+        x.addRequirement(1, 2, 1, 1);
+        x.start();
+        due("step() with event 2 after event 1", x.step(), 2);
+        due("step() with event 2 after event 1", x.step(), 4);
+    }
+
+    private static void accepts(String when, ControllableTime x, int want) {
+        due("verdict() after " + when, x.verdict(), want);
+        due("start() after " + when, x.start(), want == 1 ? 0 : 105);
+        due("restart() after " + when, x.restart(), want == 1 ? 0 : 101);
     }
 
     private static void startOrdinary() {
