@@ -339,6 +339,7 @@ public final class ControllableTime {
         return policies[e] == EAGER ? canExecute(e) : !canDecline(e);
     }
 
+    /** A wait for a contingent event that is not activated yet needs no look: the bound to its activation forbids e. */
     private boolean canExecute(int e) {
         for (int v = 0; v < eventCount; v++) {
             if (v != e && soonest(v, e) > round + bounds[e * MOST_EVENTS + v]) {
@@ -395,7 +396,7 @@ public final class ControllableTime {
             }
             if (isContingent(c)) {
                 waits[c * MOST_EVENTS + c] = longest[c];
-                lowerBound(activations[c], c, longest[c]);
+                tightenBound(activations[c], c, longest[c]);
             }
         }
     }
@@ -436,14 +437,14 @@ public final class ControllableTime {
         }
     }
 
-    private void lowerBound(int u, int v, int most) {
+    private void tightenBound(int u, int v, int most) {
         if (most < bounds[u * MOST_EVENTS + v]) {
             bounds[u * MOST_EVENTS + v] = most;
             hasChanged = true;
         }
     }
 
-    private void raiseWait(int c, int u, int least) {
+    private void lengthenWait(int c, int u, int least) {
         if (least > waits[c * MOST_EVENTS + u]) {
             waits[c * MOST_EVENTS + u] = least;
             hasChanged = true;
@@ -454,7 +455,7 @@ public final class ControllableTime {
         for (int via = 0; via < eventCount; via++) {
             for (int u = 0; u < eventCount; u++) {
                 for (int v = 0; v < eventCount; v++) {
-                    lowerBound(u, v, bounds[u * MOST_EVENTS + via] + bounds[via * MOST_EVENTS + v]);
+                    tightenBound(u, v, bounds[u * MOST_EVENTS + via] + bounds[via * MOST_EVENTS + v]);
                 }
             }
         }
@@ -464,7 +465,7 @@ public final class ControllableTime {
     private void chainWaits(int c) {
         for (int u = 0; u < eventCount; u++) {
             for (int v = 0; v < eventCount; v++) {
-                raiseWait(c, u, waits[c * MOST_EVENTS + v] - bounds[u * MOST_EVENTS + v]);
+                lengthenWait(c, u, waits[c * MOST_EVENTS + v] - bounds[u * MOST_EVENTS + v]);
             }
         }
     }
@@ -473,7 +474,7 @@ public final class ControllableTime {
     private void waitBeforeActivations(int c) {
         for (int k = 1; k < eventCount; k++) {
             if (k != c && isContingent(k) && waits[c * MOST_EVENTS + k] > 0) {
-                raiseWait(c, activations[k], waits[c * MOST_EVENTS + k] - shortest[k]);
+                lengthenWait(c, activations[k], waits[c * MOST_EVENTS + k] - shortest[k]);
             }
         }
     }
@@ -483,7 +484,7 @@ public final class ControllableTime {
         for (int u = 0; u < eventCount; u++) {
             int wait = waits[c * MOST_EVENTS + u];
             int sure = wait < shortest[c] ? wait : shortest[c];
-            lowerBound(u, activations[c], -sure);
+            tightenBound(u, activations[c], -sure);
         }
     }
 
@@ -491,7 +492,7 @@ public final class ControllableTime {
     private void boundByShortest(int c) {
         for (int v = 0; v < eventCount; v++) {
             if (bounds[c * MOST_EVENTS + v] < 0) {
-                lowerBound(activations[c], v, shortest[c] + bounds[c * MOST_EVENTS + v]);
+                tightenBound(activations[c], v, shortest[c] + bounds[c * MOST_EVENTS + v]);
             }
         }
     }
