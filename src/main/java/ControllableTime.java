@@ -339,7 +339,7 @@ public final class ControllableTime {
         return policies[e] == EAGER ? canExecute(e) : !canDecline(e);
     }
 
-    /** A wait for a contingent event that is not activated yet needs no look: the bound to its activation forbids e. */
+    /** Waits for contingent events not activated yet need no look: the bounds to their activations say as much. */
     private boolean canExecute(int e) {
         for (int v = 0; v < eventCount; v++) {
             if (v != e && soonest(v, e) > round + bounds[e * MOST_EVENTS + v]) {
