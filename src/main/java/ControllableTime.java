@@ -28,7 +28,7 @@ public final class ControllableTime {
     private static final int MOST_HORIZON = 7;
 
     private static final int MOST_PAIRS = 36;
-    /** Each pass but the last changes one of 72 numbers, all within -7..7 as long as nothing contradicts itself. */
+    /** Each pass but the last takes in one of 72 numbers, which stay within -7..14 unless there is a contradiction. */
     private static final int MOST_PASSES = 2000;
 
     private static final int NO_TIME = -1;

@@ -187,6 +187,13 @@ public final class GameEdgeTest {
     }
 
     private static void nothingLaterIsKnown() {
+        for (int c = 1; c < 6; c++) {
+            for (int e = 1; e < 6; e++) {
+                if (c != e) {
+                    notKnownBefore(c, e);
+                }
+            }
+        }
         ControllableTime x = new ControllableTime(3, 5);
         link(x, 0, 1, 2, 3);
         require(x, 2, 1, 1, 1);
@@ -207,6 +214,17 @@ public final class GameEdgeTest {
         y.dropRequirement(1, 3);
         require(y, 1, 3, 1, 1);
         accepts("a duration begun in the round of an outcome", y, 1);
+    }
+
+    /** Whatever their numbers, e can follow c in the same round, but cannot be one round ahead of it. */
+    private static void notKnownBefore(int c, int e) {
+        ControllableTime x = new ControllableTime(6, 5);
+        link(x, 0, c, 2, 4);
+        require(x, c, e, 0, 0);
+        accepts("event " + e + " in the round of event " + c, x, 1);
+        x.dropRequirement(e, c);
+        require(x, c, e, -1, -1);
+        accepts("event " + e + " one round before event " + c, x, 0);
     }
 
     private static void timesStay() {

@@ -1,7 +1,7 @@
 /** Promises 1 to 6: the constructor and its beginning, and the editing of links and policies. */
 public final class LoadTest {
-    private static final int LEAST = Integer.MIN_VALUE;
-    private static final int GREATEST = Integer.MAX_VALUE;
+    private static final int LEAST = Checks.LEAST;
+    private static final int GREATEST = Checks.GREATEST;
     private static final Checks CHECKS = new Checks();
 
     public static void main(String[] args) {

@@ -23,15 +23,11 @@ public final class PlayTest {
     }
 
     private static void steps(ControllableTime x, int... answers) {
-        for (int k = 0; k < answers.length; k++) {
-            due("step() " + k, x.step(), answers[k]);
-        }
+        CHECKS.steps(x, answers);
     }
 
     private static void times(ControllableTime x, int... want) {
-        for (int e = 0; e < want.length; e++) {
-            due("timeOf(" + e + ")", x.timeOf(e), want[e]);
-        }
+        CHECKS.times(x, want);
     }
 
     private static void revealOrdinary() {

@@ -133,6 +133,13 @@ public final class StepEdgeTest {
         x.addRequirement(3, 2, 2, 3);
         begin(x);
         steps(x, 8, 0, 4, 0, 2);
+        for (int c = 1; c < 6; c++) {
+            for (int e = 1; e < 6; e++) {
+                if (c != e) {
+                    eagerNearOutcome(c, e);
+                }
+            }
+        }
         for (int first = 0; first <= 6; first++) {
             ControllableTime y = new ControllableTime(3, 6);
             y.addRequirement(0, 2, first, 6);
@@ -141,6 +148,19 @@ public final class StepEdgeTest {
                 due("step() in round " + t, y.step(), (t == 0 ? 2 : 0) + (t == first ? 4 : 0));
             }
         }
+    }
+
+    /** Whatever their numbers, e is executed in round 2, as c is in round 4 at the latest, or with c before that. */
+    private static void eagerNearOutcome(int c, int e) {
+        ControllableTime x = new ControllableTime(6, 6);
+        x.addContingent(0, c, 1, 4);
+        x.addRequirement(c, e, -2, 6);
+        begin(x);
+        steps(x, 62 - (1 << c) - (1 << e), 0, 1 << e, 0, 1 << c);
+        begin(x);
+        steps(x, 62 - (1 << c) - (1 << e));
+        due("reveal(" + c + ")", x.reveal(c), 0);
+        steps(x, 1 << e);
     }
 
     private static void eagerElseDeclined() {
@@ -177,12 +197,33 @@ public final class StepEdgeTest {
             }
             CHECKS.stateAndNow("at the end", x, 2, last);
         }
+        for (int c = 1; c < 6; c++) {
+            for (int e = 1; e < 6; e++) {
+                if (c != e) {
+                    lazyNearOutcome(c, e);
+                }
+            }
+        }
         ControllableTime y = new ControllableTime(4, 6);
         y.addContingent(1, 2, 1, 4);
         y.setPolicy(1, 1);
         y.setPolicy(3, 1);
         begin(y);
         steps(y, 0, 0, 2, 0, 0, 0, 4 + 8);
+    }
+
+    /** Whatever their numbers, e waits for one round after c, and does not wait any longer. */
+    private static void lazyNearOutcome(int c, int e) {
+        ControllableTime x = new ControllableTime(6, 6);
+        x.addContingent(0, c, 1, 4);
+        x.addRequirement(c, e, -6, 1);
+        x.setPolicy(e, 1);
+        begin(x);
+        steps(x, 62 - (1 << c) - (1 << e), 0, 0, 0, 1 << c, 1 << e);
+        begin(x);
+        steps(x, 62 - (1 << c) - (1 << e), 0);
+        due("reveal(" + c + ")", x.reveal(c), 0);
+        steps(x, 0, 1 << e);
     }
 
     private static void lazyElseExecuted() {
