@@ -327,6 +327,15 @@ public final class GameEdgeTest {
         accepts("and no later", y, 1);
         require(y, 3, 1, -7, 2);
         accepts("event 2 in round 0 is too early for the first to last 4 and the second 1", y, 0);
+        ControllableTime z = new ControllableTime(6, 6);
+        link(z, 0, 3, 1, 2);
+        link(z, 3, 5, 1, 2);
+        link(z, 4, 1, 1, 2);
+        require(z, 5, 4, 0, 1);
+        require(z, 0, 1, 4, 6);
+        accepts("event 5 in rounds 2 to 4, event 4 in rounds 3 and 4, event 1 in rounds 4 to 6", z, 1);
+        require(z, 0, 1, 5, 6);
+        accepts("event 1 may be in round 4 if all durations are short", z, 0);
     }
 
     /** All policies give the same verdict, and a choice that is safe does not count on the policies of later ones. */

@@ -15,6 +15,7 @@ public final class StepEdgeTest {
         CHECKS.sentence("10", "LAZY: e is declined if the position after declining e is safe",
                 StepEdgeTest::lazyAtLastSafeRound);
         CHECKS.sentence("10", "LAZY: else executed", StepEdgeTest::lazyElseExecuted);
+        CHECKS.sentence("10", "is safe, else declined; is safe, else executed", StepEdgeTest::onlyOneSafeChoice);
         CHECKS.sentence("10", "in increasing order of e, one choice is made", StepEdgeTest::order);
         CHECKS.sentence("10", "the choices already made in this round stand: executed", StepEdgeTest::executedStands);
         CHECKS.sentence("10", "the choices already made in this round stand: declined", StepEdgeTest::declinedStands);
@@ -246,6 +247,29 @@ public final class StepEdgeTest {
         due("reveal(1)", x.reveal(1), 0);
         steps(x, 0, 4);
         CHECKS.times(x, 0, 3, 4, 1);
+    }
+
+    /**
+     * Event 5 must follow the outcome 3 by 0 or 1 rounds and event 4 by 4 or 5. As 3 is 1 to 3 rounds after 2, this
+     * leaves event 4 no round but the second one before 2, and event 2 none but round 2, whatever the policies are.
+     */
+    private static void onlyOneSafeChoice() {
+        for (int policy = 0; policy <= 1; policy++) {
+            ControllableTime x = new ControllableTime(6, 7);
+            x.addContingent(5, 1, 2, 2);
+            x.addContingent(2, 3, 1, 3);
+            x.addRequirement(3, 1, 2, 3);
+            x.addRequirement(5, 4, -5, -4);
+            for (int e = 1; e < 6; e++) {
+                x.setPolicy(e, policy);
+            }
+            begin(x);
+            steps(x, 16, 0, 4, 0, 0, 8 + 32, 0, 2);
+            begin(x);
+            steps(x, 16, 0, 4);
+            due("reveal(3)", x.reveal(3), 0);
+            steps(x, 0, 32, 0, 2);
+        }
     }
 
     /** Events bound to the same round: whoever chooses first decides for all, so the first in order is seen. */
