@@ -121,8 +121,8 @@ final class ReferenceTime {
         for (int e = 1; e < n; e++) {
             if (link[e] == null && time[e] == OPEN) {
                 boolean execute = policy[e] == 0
-                        ? choicesSafe(with(time, e, now), now, e + 1)
-                        : !choicesSafe(time, now, e + 1);
+                        ? isSafe(with(time, e, now), now, e + 1)
+                        : !isSafe(time, now, e + 1);
                 if (execute) time[e] = now;
             }
         }
@@ -201,7 +201,7 @@ final class ReferenceTime {
 
     /** Tries every outcome of the events from c on; which may happen is read from the times before the round. */
     private boolean outcomesSafe(int[] before, int[] times, int t, int c) {
-        if (c == n) return choicesSafe(times, t, 1);
+        if (c == n) return isSafe(times, t, 1);
         boolean running = link[c] != null && before[c] == OPEN && before[link[c][0]] != OPEN;
         int d = running ? t - before[link[c][0]] : 0;
         if (!running || d < link[c][1]) return outcomesSafe(before, times, t, c + 1);
@@ -209,10 +209,11 @@ final class ReferenceTime {
         return d == link[c][2] || outcomesSafe(before, times, t, c + 1);
     }
 
-    private boolean choicesSafe(int[] times, int t, int e) {
+    /** Whether the position is safe in which the events from e on still have their choice in round t. */
+    boolean isSafe(int[] times, int t, int e) {
         if (e == n) return roundSafe(times, t + 1);
-        if (link[e] == null && times[e] == OPEN && choicesSafe(with(times, e, t), t, e + 1)) return true;
-        return choicesSafe(times, t, e + 1);
+        if (link[e] == null && times[e] == OPEN && isSafe(with(times, e, t), t, e + 1)) return true;
+        return isSafe(times, t, e + 1);
     }
 
     private boolean won(int[] times) {
